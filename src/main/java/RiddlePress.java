@@ -303,7 +303,7 @@ public final class RiddlePress {
         }
         Issue filled = issues.get(issue);
         Riddle added = riddles.get(riddle);
-        if (filled.state != MADE_UP || added.state != PROVED && added.state != BACK) {
+        if (filled.state != MADE_UP || !isReady(added)) {
             throw new UnsupportedOperationException("not made up, or not proved whole");
         }
         int count = countRiddlesOf(filled);
@@ -495,7 +495,7 @@ public final class RiddlePress {
     }
 
     private static boolean isPersonOf(char kind, char person) {
-        return person == 'a' || person == 'b' || person == 'c' && kind == 'm';
+        return person == 'a' || person == 'b' || (person == 'c' && kind == 'm');
     }
 
     // ---- issues and their riddles
@@ -508,6 +508,10 @@ public final class RiddlePress {
             }
         }
         return count;
+    }
+
+    private static boolean isReady(Riddle riddle) {
+        return riddle.state == PROVED || riddle.state == BACK;
     }
 
     private boolean isOnSaleBy(Issue issue, int rule) {
@@ -548,22 +552,20 @@ public final class RiddlePress {
     }
 
     private boolean isSound(Riddle riddle) {
+        boolean leansOnOwn = false;
         for (int i = 0; i < ownRules.size(); i++) {
             if (riddle.proof.hasStepBy(FIRST_OWN_RULE + i)) {
-                return !leansOnFallen(riddle);
+                if (!ownRules.get(i).isStanding) {
+                    return false;
+                }
+                leansOnOwn = true;
             }
+        }
+        if (leansOnOwn) {
+            return true;
         }
         riddle.findAnswers();
         return riddle.answerCount == 1;
-    }
-
-    private boolean leansOnFallen(Riddle riddle) {
-        for (int i = 0; i < ownRules.size(); i++) {
-            if (!ownRules.get(i).isStanding && riddle.proof.hasStepBy(FIRST_OWN_RULE + i)) {
-                return true;
-            }
-        }
-        return false;
     }
 
     private int countWholeProofs() {
@@ -864,7 +866,7 @@ public final class RiddlePress {
             int owners = 0;
             int owner = 0;
             for (int person = 0; person < sets.length; person++) {
-                if ((sets[person] & 1 << place) != 0) {
+                if ((sets[person] & (1 << place)) != 0) {
                     owners++;
                     owner = person;
                 }
@@ -897,8 +899,8 @@ public final class RiddlePress {
         }
 
         private int takeByDistance(int a, int b, int k) {
-            int taken = keep(a, setOf(b) << k | setOf(b) >> k);
-            return taken + keep(b, setOf(a) << k | setOf(a) >> k);
+            int taken = keep(a, (setOf(b) << k) | (setOf(b) >> k));
+            return taken + keep(b, (setOf(a) << k) | (setOf(a) >> k));
         }
 
         private int takeByNextLeft(int a, int b) {
@@ -970,7 +972,7 @@ public final class RiddlePress {
         }
 
         boolean hasStepBy(int rule) {
-            return (rulesUsed & 1 << rule) != 0;
+            return (rulesUsed & (1 << rule)) != 0;
         }
 
         void lose() {
@@ -1100,7 +1102,7 @@ public final class RiddlePress {
         int placesOf(int persons) {
             int count = Math.min(k, persons);
             int set = (1 << count) - 1;
-            return isFirst ? set : set << persons - count;
+            return isFirst ? set : set << (persons - count);
         }
 
         /** Tries the orders of few persons first, as the one with the fewest is told. */
@@ -1117,7 +1119,7 @@ public final class RiddlePress {
             boolean isMore = true;
             for (int i = 0; isMore && i < MOST_ORDERS; i++) {
                 int place = order.placeOf(personIn(clue));
-                if ((set & 1 << place) != 0 && clue.isFitBy(order)) {
+                if ((set & (1 << place)) != 0 && clue.isFitBy(order)) {
                     counterDigits = order.digits();
                     return;
                 }
