@@ -877,7 +877,7 @@ public final class RiddlePress {
         /** Rule 9. */
         int takeByPair(int first, int second) {
             int set = setOf(first);
-            if (first >= second || set != setOf(second) || Integer.bitCount(set) != 2) {
+            if (set != setOf(second) || Integer.bitCount(set) != 2) {
                 return 0;
             }
             return takeFromOthers(first, second, set);

@@ -11,6 +11,7 @@ public final class ProofTest {
         secondPartByNothing();
         ownRules();
         ownRulesOfEachSide();
+        ownRulesWait();
         provedAnew();
         leansOn();
         noProof();
@@ -140,6 +141,9 @@ public final class ProofTest {
         ownRule("m012", 'm', 'c', false, 2, 'n', "6:0:2 10:0:1 7:2:3 ");
         ownRule("l01", 'l', 'b', false, 1, 'n', "4:0:2 10:0:1 4:0:1 ");
         ownRule("l01", 'b', 'b', false, 1, 'n', "4:0:2 ");
+        ownRule("n21", 'n', 'a', true, 1, 'n', "10:0:1 ");
+        ownRule("n32", 'n', 'b', false, 2, 'n', "10:0:2 3:0:1 ");
+        ownRule("m120", 'm', 'c', true, 2, 'n', "6:0:2 10:0:1 7:0:3 ");
     }
 
     private static void ownRule(String clue, char kind, char person, boolean isFirst, int k,
@@ -147,6 +151,21 @@ public final class ProofTest {
         RiddlePress x = press(4, clue);
         x.rule(kind, person, isFirst, k);
         proof(x, due, steps);
+    }
+
+    /** After each step the rules are tried from 0 on, so that an own rule has to wait. */
+    private static void ownRulesWait() {
+        RiddlePress x = press(3, "x00", "x10", "n02");
+        x.rule('n', 'a', false, 1);
+        proof(x, 'w', "1:0:1 1:1:1 8:0:2 3:2:1 7:0:1 ");
+        RiddlePress y = press(5, "x02", "x03", "x04", "x12", "x13", "x14", "b23");
+        y.rule('b', 'b', false, 1);
+        proof(y, 'n', "1:0:1 1:1:1 1:2:1 1:3:1 1:4:1 1:5:1 2:6:2 9:1:5 2:6:1 10:6:1 2:6:1 "
+                + "7:2:1 7:3:1 ");
+        RiddlePress z = press(4, "n12", "n12", "l01");
+        z.rule('n', 'b', true, 3);
+        z.rule('l', 'a', true, 1);
+        proof(z, 'w', "4:2:2 10:0:3 3:0:2 4:2:2 7:0:1 7:1:1 7:2:1 ");
     }
 
     private static void provedAnew() {
