@@ -90,10 +90,7 @@ public final class RiddlePress {
     public int clue(int riddle, char kind, int a, int b, int c)
             throws IndexOutOfBoundsException, IllegalArgumentException,
             UnsupportedOperationException, IllegalStateException {
-        if (!isRiddle(riddle)) {
-            throw new IndexOutOfBoundsException("no such riddle");
-        }
-        Riddle told = riddles.get(riddle);
+        Riddle told = findRiddle(riddle);
         Clue clue = new Clue(kind, a, b, c);
         if (!clue.isFor(told.persons)) {
             throw new IllegalArgumentException("no such clue");
@@ -110,10 +107,7 @@ public final class RiddlePress {
 
     /** Returns how many answers a riddle has. */
     public int answers(int riddle) throws IndexOutOfBoundsException {
-        if (!isRiddle(riddle)) {
-            throw new IndexOutOfBoundsException("no such riddle");
-        }
-        Riddle asked = riddles.get(riddle);
+        Riddle asked = findRiddle(riddle);
         asked.findAnswers();
         return asked.answerCount;
     }
@@ -121,10 +115,7 @@ public final class RiddlePress {
     /** Returns the place of a person in the first answer. */
     public int answer(int riddle, int person)
             throws IndexOutOfBoundsException, NoSuchElementException {
-        if (!isRiddle(riddle)) {
-            throw new IndexOutOfBoundsException("no such riddle");
-        }
-        Riddle asked = riddles.get(riddle);
+        Riddle asked = findRiddle(riddle);
         if (person < 0 || person >= asked.firstAnswer.length) {
             throw new IndexOutOfBoundsException("no such person");
         }
@@ -138,10 +129,7 @@ public final class RiddlePress {
     /** Proves a riddle with the rules that stand, and returns 'w', 'n' or 'f'. */
     public char prove(int riddle)
             throws IndexOutOfBoundsException, UnsupportedOperationException {
-        if (!isRiddle(riddle)) {
-            throw new IndexOutOfBoundsException("no such riddle");
-        }
-        Riddle proved = riddles.get(riddle);
+        Riddle proved = findRiddle(riddle);
         if (proved.state == IN_ISSUE || proved.state == SOLD || proved.state == BACK) {
             throw new UnsupportedOperationException("it is in an issue, or comes back");
         }
@@ -156,10 +144,7 @@ public final class RiddlePress {
 
     /** Returns the number of steps of the proof of a riddle. */
     public int steps(int riddle) throws IndexOutOfBoundsException, NoSuchElementException {
-        if (!isRiddle(riddle)) {
-            throw new IndexOutOfBoundsException("no such riddle");
-        }
-        Proof proof = riddles.get(riddle).proof;
+        Proof proof = findRiddle(riddle).proof;
         if (proof.outcome == NO_PROOF) {
             throw new NoSuchElementException("the riddle has no proof");
         }
@@ -169,10 +154,7 @@ public final class RiddlePress {
     /** Returns the rule of a step. */
     public int ruleAt(int riddle, int step)
             throws IndexOutOfBoundsException, NoSuchElementException {
-        if (!isRiddle(riddle)) {
-            throw new IndexOutOfBoundsException("no such riddle");
-        }
-        Proof proof = riddles.get(riddle).proof;
+        Proof proof = findRiddle(riddle).proof;
         if (!proof.hasStep(step)) {
             throw new NoSuchElementException("no such step");
         }
@@ -182,10 +164,7 @@ public final class RiddlePress {
     /** Returns the number of the clue, the person, the place or the pair that made a step. */
     public int causeAt(int riddle, int step)
             throws IndexOutOfBoundsException, NoSuchElementException {
-        if (!isRiddle(riddle)) {
-            throw new IndexOutOfBoundsException("no such riddle");
-        }
-        Proof proof = riddles.get(riddle).proof;
+        Proof proof = findRiddle(riddle).proof;
         if (!proof.hasStep(step)) {
             throw new NoSuchElementException("no such step");
         }
@@ -195,10 +174,7 @@ public final class RiddlePress {
     /** Returns how many places a step took away. */
     public int takenAt(int riddle, int step)
             throws IndexOutOfBoundsException, NoSuchElementException {
-        if (!isRiddle(riddle)) {
-            throw new IndexOutOfBoundsException("no such riddle");
-        }
-        Proof proof = riddles.get(riddle).proof;
+        Proof proof = findRiddle(riddle).proof;
         if (!proof.hasStep(step)) {
             throw new NoSuchElementException("no such step");
         }
@@ -207,18 +183,14 @@ public final class RiddlePress {
 
     /** Returns whether the proof of a riddle has a step by a rule. */
     public boolean leansOn(int riddle, int rule) throws IndexOutOfBoundsException {
-        if (!isRiddle(riddle) || !isRule(rule)) {
-            throw new IndexOutOfBoundsException("no such riddle or rule");
-        }
-        return riddles.get(riddle).proof.hasStepBy(rule);
+        Riddle asked = findRiddle(riddle);
+        checkRule(rule);
+        return asked.proof.hasStepBy(rule);
     }
 
     /** Returns the state of a riddle: 'o', 'w', 'i', 's', 'b' or 'h'. */
     public char state(int riddle) throws IndexOutOfBoundsException {
-        if (!isRiddle(riddle)) {
-            throw new IndexOutOfBoundsException("no such riddle");
-        }
-        return riddles.get(riddle).state;
+        return findRiddle(riddle).state;
     }
 
     // ---- own rules
@@ -241,19 +213,14 @@ public final class RiddlePress {
 
     /** Returns whether a rule stands. */
     public boolean stands(int rule) throws IndexOutOfBoundsException {
-        if (!isRule(rule)) {
-            throw new IndexOutOfBoundsException("no such rule");
-        }
-        return !isOwnRule(rule) || ownRules.get(rule - FIRST_OWN_RULE).isStanding;
+        checkRule(rule);
+        return rule < FIRST_OWN_RULE || findOwnRule(rule).isStanding;
     }
 
     /** Returns the digits of the counterexample of an own rule. */
     public int counterexample(int rule)
             throws IndexOutOfBoundsException, NoSuchElementException {
-        if (!isOwnRule(rule)) {
-            throw new IndexOutOfBoundsException("no such own rule");
-        }
-        int digits = ownRules.get(rule - FIRST_OWN_RULE).counterDigits;
+        int digits = findOwnRule(rule).counterDigits;
         if (digits == NO_COUNTEREXAMPLE) {
             throw new NoSuchElementException("there is no counterexample");
         }
@@ -262,10 +229,7 @@ public final class RiddlePress {
 
     /** Lets an own rule fall, and returns how many issues are recalled. */
     public int fall(int rule) throws IndexOutOfBoundsException, UnsupportedOperationException {
-        if (!isOwnRule(rule)) {
-            throw new IndexOutOfBoundsException("no such own rule");
-        }
-        OwnRule falling = ownRules.get(rule - FIRST_OWN_RULE);
+        OwnRule falling = findOwnRule(rule);
         if (falling.counterDigits == NO_COUNTEREXAMPLE || !falling.isStanding) {
             throw new UnsupportedOperationException("no counterexample, or it has fallen");
         }
@@ -298,11 +262,8 @@ public final class RiddlePress {
     public int put(int issue, int riddle)
             throws IndexOutOfBoundsException, UnsupportedOperationException,
             IllegalStateException {
-        if (!isIssue(issue) || !isRiddle(riddle)) {
-            throw new IndexOutOfBoundsException("no such issue or riddle");
-        }
-        Issue filled = issues.get(issue);
-        Riddle added = riddles.get(riddle);
+        Issue filled = findIssue(issue);
+        Riddle added = findRiddle(riddle);
         if (filled.state != MADE_UP || !isReady(added)) {
             throw new UnsupportedOperationException("not made up, or not proved whole");
         }
@@ -319,13 +280,10 @@ public final class RiddlePress {
     public int publish(int issue, int price)
             throws IndexOutOfBoundsException, IllegalArgumentException,
             UnsupportedOperationException {
-        if (!isIssue(issue)) {
-            throw new IndexOutOfBoundsException("no such issue");
-        }
+        Issue published = findIssue(issue);
         if (price < 0 || price > MOST_PRICE) {
             throw new IllegalArgumentException("a price is 0 to 1000");
         }
-        Issue published = issues.get(issue);
         if (published.state != MADE_UP || countRiddlesOf(published) == 0) {
             throw new UnsupportedOperationException("not made up, or without riddles");
         }
@@ -341,17 +299,12 @@ public final class RiddlePress {
 
     /** Returns the state of an issue: 'm', 's' or 'r'. */
     public char issueState(int issue) throws IndexOutOfBoundsException {
-        if (!isIssue(issue)) {
-            throw new IndexOutOfBoundsException("no such issue");
-        }
-        return issues.get(issue).state;
+        return findIssue(issue).state;
     }
 
     /** Returns how many issues on sale lean on a rule. */
     public int indexed(int rule) throws IndexOutOfBoundsException {
-        if (!isRule(rule)) {
-            throw new IndexOutOfBoundsException("no such rule");
-        }
+        checkRule(rule);
         int count = 0;
         for (int issue = 0; issue < issues.size(); issue++) {
             if (isOnSaleBy(issues.get(issue), rule)) {
@@ -373,13 +326,10 @@ public final class RiddlePress {
     /** Gives credits to a customer, and returns the credits then. */
     public int deposit(int customer, int credits)
             throws IndexOutOfBoundsException, IllegalArgumentException, ArithmeticException {
-        if (!isCustomer(customer)) {
-            throw new IndexOutOfBoundsException("no such customer");
-        }
+        Customer payer = findCustomer(customer);
         if (credits < 1 || credits > MOST_DEPOSIT) {
             throw new IllegalArgumentException("a deposit is 1 to 2000000000");
         }
-        Customer payer = customers.get(customer);
         if (payer.credits > MOST_CREDITS - credits) {
             throw new ArithmeticException("more than 2147483647 credits");
         }
@@ -390,13 +340,10 @@ public final class RiddlePress {
     /** Subscribes issues for a customer, and returns how many are left then. */
     public int subscribe(int customer, int issues)
             throws IndexOutOfBoundsException, IllegalArgumentException {
-        if (!isCustomer(customer)) {
-            throw new IndexOutOfBoundsException("no such customer");
-        }
+        Customer subscriber = findCustomer(customer);
         if (issues < 1 || issues > MOST_SUBSCRIBED) {
             throw new IllegalArgumentException("1 to 12 issues are subscribed");
         }
-        Customer subscriber = customers.get(customer);
         subscriber.subscribed += issues;
         return subscriber.subscribed;
     }
@@ -404,11 +351,8 @@ public final class RiddlePress {
     /** Lets a customer buy an issue, and returns the credits then. */
     public int buy(int customer, int issue)
             throws IndexOutOfBoundsException, UnsupportedOperationException {
-        if (!isCustomer(customer) || !isIssue(issue)) {
-            throw new IndexOutOfBoundsException("no such customer or issue");
-        }
-        Customer buyer = customers.get(customer);
-        Issue bought = issues.get(issue);
+        Customer buyer = findCustomer(customer);
+        Issue bought = findIssue(issue);
         if (bought.state != ON_SALE || buyer.isOwnerOf(issue) || buyer.credits < bought.price) {
             throw new UnsupportedOperationException("not on sale, had, or too few credits");
         }
@@ -418,18 +362,14 @@ public final class RiddlePress {
 
     /** Returns the credits of a customer. */
     public int credits(int customer) throws IndexOutOfBoundsException {
-        if (!isCustomer(customer)) {
-            throw new IndexOutOfBoundsException("no such customer");
-        }
-        return customers.get(customer).credits;
+        return findCustomer(customer).credits;
     }
 
     /** Returns whether a customer has an issue, also one that was recalled since. */
     public boolean has(int customer, int issue) throws IndexOutOfBoundsException {
-        if (!isCustomer(customer) || !isIssue(issue)) {
-            throw new IndexOutOfBoundsException("no such customer or issue");
-        }
-        return customers.get(customer).isOwnerOf(issue);
+        Customer asked = findCustomer(customer);
+        findIssue(issue);
+        return asked.isOwnerOf(issue);
     }
 
     /** Returns the credits that the press has, less than 0 perhaps. */
@@ -474,24 +414,39 @@ public final class RiddlePress {
 
     // ---- what there is
 
-    private boolean isRiddle(int number) {
-        return number >= 0 && number < riddles.size();
+    private Riddle findRiddle(int number) {
+        if (number < 0 || number >= riddles.size()) {
+            throw new IndexOutOfBoundsException("no such riddle");
+        }
+        return riddles.get(number);
     }
 
-    private boolean isRule(int number) {
-        return number >= 0 && number < FIRST_OWN_RULE + ownRules.size();
+    private void checkRule(int number) {
+        if (number < 0 || number >= FIRST_OWN_RULE + ownRules.size()) {
+            throw new IndexOutOfBoundsException("no such rule");
+        }
     }
 
-    private boolean isOwnRule(int number) {
-        return number >= FIRST_OWN_RULE && isRule(number);
+    private OwnRule findOwnRule(int number) {
+        int place = number - FIRST_OWN_RULE;
+        if (number < FIRST_OWN_RULE || place >= ownRules.size()) {
+            throw new IndexOutOfBoundsException("no such own rule");
+        }
+        return ownRules.get(place);
     }
 
-    private boolean isIssue(int number) {
-        return number >= 0 && number < issues.size();
+    private Issue findIssue(int number) {
+        if (number < 0 || number >= issues.size()) {
+            throw new IndexOutOfBoundsException("no such issue");
+        }
+        return issues.get(number);
     }
 
-    private boolean isCustomer(int number) {
-        return number >= 0 && number < customers.size();
+    private Customer findCustomer(int number) {
+        if (number < 0 || number >= customers.size()) {
+            throw new IndexOutOfBoundsException("no such customer");
+        }
+        return customers.get(number);
     }
 
     private static boolean isPersonOf(char kind, char person) {

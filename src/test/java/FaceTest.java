@@ -62,14 +62,26 @@ public final class FaceTest {
         for (Class<?> part : face.getDeclaredClasses()) {
             Due.is(part.getName(), true, () -> Modifier.isStatic(part.getModifiers()));
             Due.is(part.getName(), false, () -> Modifier.isPublic(part.getModifiers()));
+            for (Method method : part.getDeclaredMethods()) {
+                Due.is(part.getName() + " " + method, false, () -> isNameOfFace(method));
+            }
         }
         Due.end();
+    }
+
+    private static boolean isNameOfFace(Method method) {
+        for (String told : FACE) {
+            if (told.contains(" " + method.getName() + "(")) {
+                return true;
+            }
+        }
+        return false;
     }
 
     private static List<String> methodsOf(Class<?> face) {
         List<String> methods = new ArrayList<>();
         for (Method method : face.getDeclaredMethods()) {
-            if (!Modifier.isPrivate(method.getModifiers())) {
+            if (!Modifier.isPrivate(method.getModifiers()) || isNameOfFace(method)) {
                 methods.add(textOf(method));
             }
         }
