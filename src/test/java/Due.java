@@ -13,10 +13,16 @@ final class Due {
     static final Class<?> NO_ELEMENT = NoSuchElementException.class;
     static final Class<?> ARITHMETIC = ArithmeticException.class;
 
+    private static String sentence = "";
     private static int checks = 0;
     private static int wrong = 0;
 
     private Due() {
+    }
+
+    /** The answers from here on are due by this sentence of the document. */
+    static void says(String words) {
+        sentence = "\"" + words + "\" ";
     }
 
     /** The answer is due; or, if it is a class, that the call throws just this exception. */
@@ -30,7 +36,7 @@ final class Due {
         checks++;
         if (!due.equals(got)) {
             wrong++;
-            System.out.println(what + ": answered " + got + ", due is " + due);
+            System.out.println(sentence + what + ": answered " + got + ", due is " + due);
         }
     }
 

@@ -22,24 +22,9 @@ public final class FiguresTest {
         Due.is("31: not whole", Due.ARITHMETIC, x::meanSteps);
     }
 
-    private static int chain(RiddlePress x) {
-        int riddle = x.riddle(3);
-        x.clue(riddle, 'l', 0, 1, 0);
-        x.clue(riddle, 'l', 1, 2, 0);
-        x.prove(riddle);
-        return riddle;
-    }
-
-    private static int weak(RiddlePress x) {
-        int riddle = x.riddle(3);
-        x.clue(riddle, 'b', 0, 1, 0);
-        x.prove(riddle);
-        return riddle;
-    }
-
     private static void shares() {
         RiddlePress x = new RiddlePress();
-        chain(x);
+        Told.chain(x);
         Due.is("30: all", 1.0f, x::provedShare);
         x.riddle(3);
         Due.is("30: half", 0.5f, x::provedShare);
@@ -51,11 +36,11 @@ public final class FiguresTest {
 
     private static void sharesOfThirds() {
         RiddlePress x = new RiddlePress();
-        chain(x);
+        Told.chain(x);
         x.riddle(3);
         x.riddle(3);
         Due.is("30: a third", 1.0f / 3.0f, x::provedShare);
-        chain(x);
+        Told.chain(x);
         x.riddle(4);
         x.riddle(5);
         x.riddle(6);
@@ -65,11 +50,11 @@ public final class FiguresTest {
     private static void meanSteps() {
         RiddlePress x = new RiddlePress();
         x.rule('b', 'a', true, 1);
-        chain(x);
+        Told.chain(x);
         Due.is("31: three", 3.0, x::meanSteps);
-        weak(x);
+        Told.weak(x);
         Due.is("31: three and five", 4.0, x::meanSteps);
-        chain(x);
+        Told.chain(x);
         Due.is("31: three, three and five", 11.0 / 3.0, x::meanSteps);
         x.riddle(3);
         x.clue(3, 'x', 0, 0, 0);
@@ -84,8 +69,8 @@ public final class FiguresTest {
         RiddlePress x = new RiddlePress();
         x.rule('b', 'a', true, 1);
         x.issue();
-        x.put(0, chain(x));
-        x.put(0, weak(x));
+        x.put(0, Told.chain(x));
+        x.put(0, Told.weak(x));
         Due.is("30: made up", 1.0f, x::provedShare);
         Due.is("31: made up", 4.0, x::meanSteps);
         x.publish(0, 1);
@@ -101,9 +86,9 @@ public final class FiguresTest {
         x.rule('b', 'a', true, 1);
         x.rule('b', 'a', true, 1);
         x.issue();
-        x.put(0, weak(x));
+        x.put(0, Told.weak(x));
         x.issue();
-        x.put(1, chain(x));
+        x.put(1, Told.chain(x));
         Due.is("29: made up", true, x::isClean);
         x.publish(0, 1);
         x.publish(1, 1);

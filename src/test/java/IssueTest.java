@@ -17,28 +17,6 @@ public final class IssueTest {
         Due.end();
     }
 
-    /** A riddle that is whole by the rule 4 alone. */
-    private static int chain(RiddlePress x) {
-        int riddle = x.riddle(3);
-        x.clue(riddle, 'l', 0, 1, 0);
-        x.clue(riddle, 'l', 1, 2, 0);
-        x.prove(riddle);
-        return riddle;
-    }
-
-    /** A riddle that is whole by an own rule for 'b', if one stands. */
-    private static int weak(RiddlePress x) {
-        int riddle = x.riddle(3);
-        x.clue(riddle, 'b', 0, 1, 0);
-        x.prove(riddle);
-        return riddle;
-    }
-
-    /** An own rule with a counterexample; the riddles of weak lean on the first that stands. */
-    private static int falseRule(RiddlePress x) {
-        return x.rule('b', 'a', true, 1);
-    }
-
     private static void state(RiddlePress x, int riddle, char due) {
         Due.is("12: state of " + riddle, due, () -> x.state(riddle));
     }
@@ -64,7 +42,7 @@ public final class IssueTest {
         x.issue();
         x.issue();
         for (int i = 0; i < 6; i++) {
-            chain(x);
+            Told.chain(x);
         }
         for (int i = 0; i < 4; i++) {
             int riddle = i;
@@ -86,7 +64,7 @@ public final class IssueTest {
     private static void putWrongInputs() {
         RiddlePress x = new RiddlePress();
         x.issue();
-        chain(x);
+        Told.chain(x);
         Due.is("18: no issue 1", Due.INDEX, () -> x.put(1, 0));
         Due.is("18: no issue -1", Due.INDEX, () -> x.put(-1, 0));
         Due.is("18: no riddle 1", Due.INDEX, () -> x.put(0, 1));
@@ -107,9 +85,9 @@ public final class IssueTest {
         RiddlePress x = new RiddlePress();
         x.issue();
         x.issue();
-        chain(x);
-        chain(x);
-        chain(x);
+        Told.chain(x);
+        Told.chain(x);
+        Told.chain(x);
         x.put(0, 0);
         x.put(0, 1);
         x.put(1, 2);
@@ -125,7 +103,7 @@ public final class IssueTest {
         RiddlePress x = new RiddlePress();
         x.issue();
         x.issue();
-        chain(x);
+        Told.chain(x);
         Due.is("19: no riddles", Due.UNSUPPORTED, () -> x.publish(0, 1));
         Due.is("19: no riddles, price", Due.ARGUMENT, () -> x.publish(0, 1001));
         x.put(0, 0);
@@ -142,14 +120,14 @@ public final class IssueTest {
 
     private static void indexed() {
         RiddlePress x = new RiddlePress();
-        falseRule(x);
+        Told.falseRule(x);
         x.issue();
         x.issue();
         x.issue();
-        x.put(0, chain(x));
-        x.put(0, chain(x));
-        x.put(1, weak(x));
-        x.put(2, chain(x));
+        x.put(0, Told.chain(x));
+        x.put(0, Told.chain(x));
+        x.put(1, Told.weak(x));
+        x.put(2, Told.chain(x));
         Due.is("21: made up", 0, () -> x.indexed(4));
         x.publish(0, 1);
         Due.is("21: an issue counts once", 1, () -> x.indexed(4));
@@ -169,12 +147,12 @@ public final class IssueTest {
 
     private static void statesOfRiddles() {
         RiddlePress x = new RiddlePress();
-        falseRule(x);
+        Told.falseRule(x);
         x.issue();
         x.riddle(3);
         state(x, 0, 'o');
-        weak(x);
-        chain(x);
+        Told.weak(x);
+        Told.chain(x);
         state(x, 1, 'w');
         x.put(0, 1);
         x.put(0, 2);
@@ -189,13 +167,13 @@ public final class IssueTest {
 
     private static void recall() {
         RiddlePress x = new RiddlePress();
-        falseRule(x);
-        falseRule(x);
+        Told.falseRule(x);
+        Told.falseRule(x);
         x.issue();
         x.issue();
-        x.put(0, weak(x));
-        x.put(0, chain(x));
-        x.put(1, chain(x));
+        x.put(0, Told.weak(x));
+        x.put(0, Told.chain(x));
+        x.put(1, Told.chain(x));
         x.publish(0, 5);
         x.publish(1, 5);
         Due.is("11: on the first one", true, () -> x.leansOn(0, 10));
@@ -226,11 +204,11 @@ public final class IssueTest {
 
     private static void recallOfSeveral() {
         RiddlePress x = new RiddlePress();
-        falseRule(x);
+        Told.falseRule(x);
         for (int issue = 0; issue < 4; issue++) {
             x.issue();
-            x.put(issue, weak(x));
-            x.put(issue, weak(x));
+            x.put(issue, Told.weak(x));
+            x.put(issue, Told.weak(x));
             if (issue != 2) {
                 x.publish(issue, issue);
             }
@@ -248,10 +226,10 @@ public final class IssueTest {
 
     private static void heldAndProved() {
         RiddlePress x = new RiddlePress();
-        falseRule(x);
+        Told.falseRule(x);
         x.issue();
         x.issue();
-        x.put(0, weak(x));
+        x.put(0, Told.weak(x));
         x.publish(0, 5);
         x.fall(10);
         state(x, 0, 'h');
@@ -260,7 +238,7 @@ public final class IssueTest {
         Due.is("18: held", Due.UNSUPPORTED, () -> x.put(1, 0));
         Due.is("6: not whole", 'n', () -> x.prove(0));
         state(x, 0, 'h');
-        falseRule(x);
+        Told.falseRule(x);
         state(x, 0, 'h');
         Due.is("6: whole by a new rule", 'w', () -> x.prove(0));
         state(x, 0, 'w');
@@ -275,9 +253,9 @@ public final class IssueTest {
 
     private static void heldThatLoses() {
         RiddlePress x = new RiddlePress();
-        falseRule(x);
+        Told.falseRule(x);
         x.issue();
-        x.put(0, weak(x));
+        x.put(0, Told.weak(x));
         x.publish(0, 5);
         x.rule('b', 'b', false, 2);
         x.fall(10);
@@ -292,11 +270,11 @@ public final class IssueTest {
 
     private static void backThatLoses() {
         RiddlePress x = new RiddlePress();
-        falseRule(x);
-        falseRule(x);
+        Told.falseRule(x);
+        Told.falseRule(x);
         x.issue();
-        x.put(0, weak(x));
-        x.put(0, chain(x));
+        x.put(0, Told.weak(x));
+        x.put(0, Told.chain(x));
         x.publish(0, 5);
         x.fall(10);
         state(x, 0, 'b');
@@ -308,12 +286,12 @@ public final class IssueTest {
 
     private static void backThatStays() {
         RiddlePress x = new RiddlePress();
-        falseRule(x);
+        Told.falseRule(x);
         x.rule('n', 'a', true, 5);
         x.issue();
         x.issue();
-        x.put(0, weak(x));
-        x.put(0, chain(x));
+        x.put(0, Told.weak(x));
+        x.put(0, Told.chain(x));
         x.publish(0, 5);
         x.fall(10);
         x.put(1, 1);
