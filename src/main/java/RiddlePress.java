@@ -942,7 +942,10 @@ public final class RiddlePress {
             places.giveAll();
             boolean isMore = true;
             for (int i = 0; isMore && i < MOST_STEPS; i++) {
-                isMore = makeStep(clues, ownRules) && !places.isSomeoneWithout();
+                boolean isMade = makeStepByClues(clues) || makeStepByPersons()
+                        || makeStepByPlaces() || makeStepByPairs()
+                        || makeStepByOwnRules(clues, ownRules);
+                isMore = isMade && !places.isSomeoneWithout();
             }
             if (places.isSomeoneWithout()) {
                 outcome = FAILED;
@@ -951,28 +954,22 @@ public final class RiddlePress {
             }
         }
 
-        private boolean makeStep(List<Clue> clues, List<OwnRule> ownRules) {
+        private boolean makeStepByClues(List<Clue> clues) {
             for (int rule = 0; rule < PERSON_RULE; rule++) {
-                if (makeStepByClue(rule, clues)) {
-                    return true;
-                }
-            }
-            if (makeStepByPlaces()) {
-                return true;
-            }
-            for (int i = 0; i < ownRules.size(); i++) {
-                OwnRule own = ownRules.get(i);
-                if (own.isStanding && makeStepByOwnRule(FIRST_OWN_RULE + i, own, clues)) {
-                    return true;
+                for (int i = 0; i < clues.size(); i++) {
+                    Clue clue = clues.get(i);
+                    if (clue.ruleNumber() == rule
+                            && addStep(rule, i, places.takeByClue(clue))) {
+                        return true;
+                    }
                 }
             }
             return false;
         }
 
-        private boolean makeStepByClue(int rule, List<Clue> clues) {
-            for (int i = 0; i < clues.size(); i++) {
-                Clue clue = clues.get(i);
-                if (clue.ruleNumber() == rule && addStep(rule, i, places.takeByClue(clue))) {
+        private boolean makeStepByPersons() {
+            for (int person = 0; person < places.count(); person++) {
+                if (addStep(PERSON_RULE, person, places.takeByPerson(person))) {
                     return true;
                 }
             }
@@ -980,16 +977,15 @@ public final class RiddlePress {
         }
 
         private boolean makeStepByPlaces() {
-            for (int person = 0; person < places.count(); person++) {
-                if (addStep(PERSON_RULE, person, places.takeByPerson(person))) {
-                    return true;
-                }
-            }
             for (int place = 0; place < places.count(); place++) {
                 if (addStep(PLACE_RULE, place, places.takeByPlace(place))) {
                     return true;
                 }
             }
+            return false;
+        }
+
+        private boolean makeStepByPairs() {
             for (int first = 0; first < places.count(); first++) {
                 for (int second = first + 1; second < places.count(); second++) {
                     int pair = PAIR_FACTOR * first + second;
@@ -1001,10 +997,14 @@ public final class RiddlePress {
             return false;
         }
 
-        private boolean makeStepByOwnRule(int rule, OwnRule own, List<Clue> clues) {
-            for (int i = 0; i < clues.size(); i++) {
-                if (addStep(rule, i, places.takeByOwnRule(own, clues.get(i)))) {
-                    return true;
+        private boolean makeStepByOwnRules(List<Clue> clues, List<OwnRule> ownRules) {
+            for (int rule = 0; rule < ownRules.size(); rule++) {
+                OwnRule own = ownRules.get(rule);
+                for (int i = 0; own.isStanding && i < clues.size(); i++) {
+                    int taken = places.takeByOwnRule(own, clues.get(i));
+                    if (addStep(FIRST_OWN_RULE + rule, i, taken)) {
+                        return true;
+                    }
                 }
             }
             return false;
